@@ -243,12 +243,14 @@ public final class GhostRota {
         int twos = 0;
         int first = NONE;
         int ghosts = 0;
-        for (int at = 0; at < GHOSTS * ROOMS; at++) {
-            int g = at / ROOMS;
-            if (house.hasGhost(g) && dread.frightened(g, night, at % ROOMS, house.sleepers) == sleepers) {
-                twos++;
-                first = first == NONE ? at : first;
-                ghosts |= 1 << g;
+        for (int g = 0; g < GHOSTS; g++) {
+            int frightened = house.hasGhost(g) ? dread.frightenedBy(g, night, house.sleepers) : 0;
+            for (int room = 0; room < ROOMS; room++) {
+                if (dread.within(g, night, room, frightened) == sleepers) {
+                    twos++;
+                    first = first == NONE ? g * ROOMS + room : first;
+                    ghosts |= 1 << g;
+                }
             }
         }
         if (what == 0 || what == 3) {
@@ -1188,15 +1190,14 @@ public final class GhostRota {
 
         /** How much a ghost frightens a sleeper by a walk; NOT if it does not. */
         int frightOf(int g, int p, int night, int room, int chain) {
-            int bed = house.bed[night * SLEEPERS + p];
-            if (bed == AWAY || !isNear(house.kind[g], room, bed)) {
+            if (!isNear(g, p, night, room)) {
                 return NOT;
             }
             int company = house.companyOf(p, night);
             if (!isLet(house.kind[g], company, chain)) {
                 return NOT;
             }
-            tellWalk(g, night, bed, chain);
+            tellWalk(g, night, house.bed[night * SLEEPERS + p], chain);
             tellLetter('p', p);
             tellLetter('v', house.nerves[p]);
             tellLetter('o', company);
@@ -1213,11 +1214,27 @@ public final class GhostRota {
             return sum;
         }
 
-        /** Who of these sleepers are frightened by a walk without a chain. */
-        int frightened(int g, int night, int room, int sleepers) {
+        /**
+         * Who of these sleepers a ghost without a chain would frighten if it walked where it can: the law looks at
+         * the sleeper's room, so that a walk in that one tells for the rooms next to it, too.
+         */
+        int frightenedBy(int g, int night, int sleepers) {
             int bits = 0;
             for (int p = 0; p < SLEEPERS; p++) {
-                if ((sleepers >> p & 1) == 1 && frightOf(g, p, night, room, 0) != NOT) {
+                int bed = house.bed[night * SLEEPERS + p];
+                boolean there = (sleepers >> p & 1) == 1 && bed != AWAY;
+                if (there && frightOf(g, p, night, bed, 0) != NOT) {
+                    bits |= 1 << p;
+                }
+            }
+            return bits;
+        }
+
+        /** Which of these sleepers a ghost reaches from a room. */
+        int within(int g, int night, int room, int sleepers) {
+            int bits = 0;
+            for (int p = 0; p < SLEEPERS && sleepers >> p != 0; p++) {
+                if ((sleepers >> p & 1) == 1 && isNear(g, p, night, room)) {
                     bits |= 1 << p;
                 }
             }
@@ -1243,8 +1260,9 @@ public final class GhostRota {
             return rules.amountOf('q', HIGHEST_WAGE, letters);
         }
 
-        private static boolean isNear(int kind, int room, int bed) {
-            return room == bed || kind == LOUD && (room == bed - 1 || room == bed + 1);
+        private boolean isNear(int g, int p, int night, int room) {
+            int bed = house.bed[night * SLEEPERS + p];
+            return room == bed || house.kind[g] == LOUD && (room == bed - 1 || room == bed + 1);
         }
 
         private static boolean isLet(int kind, int company, int chain) {
@@ -1426,12 +1444,15 @@ public final class GhostRota {
         }
 
         private void useGhost(int g) {
-            for (int at = 0; at < WALKS_IN_WEEK; at++) {
-                int set = dread.frightened(g, at / ROOMS, at % ROOMS, wanted);
-                reach[g * WALKS_IN_WEEK + at] = set;
-                if (set != 0 && seen[set] != mark) {
-                    seen[set] = mark;
-                    useWalk(g, set);
+            for (int night = 0; night < NIGHTS; night++) {
+                int frightened = dread.frightenedBy(g, night, wanted);
+                for (int room = 0; room < ROOMS; room++) {
+                    int set = dread.within(g, night, room, frightened);
+                    reach[(g * NIGHTS + night) * ROOMS + room] = set;
+                    if (set != 0 && seen[set] != mark) {
+                        seen[set] = mark;
+                        useWalk(g, set);
+                    }
                 }
             }
         }
@@ -1442,8 +1463,9 @@ public final class GhostRota {
             int left = others;
             for (int step = 0; step < SETS; step++) {
                 int ghosts = fewest(g + 1, left) + 1;
-                if (ghosts < fewest(g, left | set)) {
-                    answers[left | set] ^= (long) (fewest(g, left | set) ^ ghosts) << BITS * g;
+                int before = fewest(g, left | set);
+                if (ghosts < before) {
+                    answers[left | set] ^= (long) (before ^ ghosts) << BITS * g;
                 }
                 if (left == 0) {
                     break;
