@@ -1087,6 +1087,9 @@ public final class PromiseTest {
         rota("3@0-5;0@0-5;1@0-0", 3);
         law("k(1=1);z4(1=1)", 2);
         fraction("behind one that stands", 0, 0, 3, 5);
+        rota("2@0-0;1@0-1", 2);
+        law("k(1=1);z99(g=2);z5(1=1)", 3);
+        fraction("ten tenths and five", 0, 0, 1, 2);
         law("k(1=1)", 1);
         fraction("always", 0, 0, 1, 1);
         is("X stays", x.count(3), 1);
@@ -1219,6 +1222,15 @@ public final class PromiseTest {
             x.feed(1, 0, 21 ^ 1 << bit, 0, 0);
             is("bit " + bit, x.check(5), 2);
         }
+        law("k(1=1);f99(1=1)", 2);
+        rota("0@0-0;0@1-0;0@2-0;0@3-0;0@4-0;0@5-0;0@6-0", 7);
+        for (int week = 0; week < 120; week++) {
+            x.live();
+        }
+        // 1 and 120 weeks of 7 times 99
+        is("a great number", x.soFar(10), 83161);
+        x.feed(83161, 0, 83181, 0, 0);
+        is("a great number", x.check(5), -1);
     }
 
     private void count() {
