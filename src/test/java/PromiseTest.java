@@ -1,9 +1,8 @@
 /** The promises 1 to 31, each with answers reckoned by hand from the document. */
-public final class PromiseTest {
-    private static final int MIN = Integer.MIN_VALUE;
-    private static final int MAX = Integer.MAX_VALUE;
-    private final Due due = new Due("PromiseTest");
-    private GhostRota x;
+public final class PromiseTest extends Asked {
+    private PromiseTest() {
+        super("PromiseTest");
+    }
 
     public static void main(String[] args) {
         PromiseTest t = new PromiseTest();
@@ -43,44 +42,6 @@ public final class PromiseTest {
         t.check();
         t.count();
         t.due.end();
-    }
-
-    private void fresh() {
-        x = new GhostRota();
-    }
-
-    private void fresh(String law) {
-        fresh();
-        due.same("law " + law, Texts.law(x, law) > 0 ? 1 : 0, 1);
-    }
-
-    private void is(String call, long got, long want) {
-        due.same(call, got, want);
-    }
-
-    private void yes(String call, boolean got) {
-        due.yes(call, got);
-    }
-
-    private void no(String call, boolean got) {
-        due.no(call, got);
-    }
-
-    private void rota(String text, int want) {
-        is("rota " + text, Texts.rota(x, text), want);
-    }
-
-    private void law(String text, int want) {
-        is("law " + text, Texts.law(x, text), want);
-    }
-
-    private void sleeperIn(int p, int nerves, int room) {
-        x.sleeper(p, nerves);
-        x.sleeps(p, 0, 7, room);
-    }
-
-    private static String times(int n, String text) {
-        return text.repeat(n);
     }
 
     private void newObject() {
@@ -995,6 +956,7 @@ public final class PromiseTest {
         is("3, 9", x.bids(3, 9, 2), firstOf(3, 9, false));
         is("none: the second would go above 1, the first along, so up to 8 and 9", x.bids(0, 20, 0), countOf(0, 20));
         for (int a = 0; a <= 20; a++) {
+            fresh();
             for (int b = 0; b <= 20; b++) {
                 is("bids " + a + " " + b, x.bids(a, b, 0), countOf(a, b));
                 is("bids " + a + " " + b, x.bids(a, b, 1), firstOf(a, b, true));
