@@ -52,7 +52,7 @@ public final class RefusalTest extends Asked {
     private static GhostRota furnished() {
         GhostRota house = new GhostRota();
         Texts.law(house, "k(v<9);f1+m+v+t+h+c%3(1=1);wy%50+1(1=1);z1(t=9);q20+r*l-c(1=1)");
-        Texts.rota(house, "0@0-0+;1@0-1;0@2-3;2@6-11+;5@1-1;1@0-4");
+        Texts.rota(house, "0@0-0+;1@0-1;0@2-3;2@6-11+;5@1-1;1@0-4;0@5-0;1@5-5;2@5-6;7@5-7;8@5-8");
         for (int i = 0; i < 10; i++) {
             if (i != NOT_TOLD_GHOST) {
                 house.ghost(i, i % 5, i == FULLY_MOANING_GHOST ? 9 : i == 9 ? 8 : i, 9 - i, 100 * i + 99);
@@ -88,7 +88,7 @@ public final class RefusalTest extends Asked {
         for (int what = 0; what < (walks ? 47 : 5); what++) {
             seen[at++] = house.week(what);
         }
-        for (int i = 0; walks && i < 30; i++) {
+        for (int i = 0; walks && i < 55; i++) {
             seen[at++] = house.walk(i / 5, i % 5);
         }
         seen[at++] = house.july(3, -1);
@@ -256,7 +256,7 @@ public final class RefusalTest extends Asked {
 
     private void walk() {
         Call walk = (h, w) -> h.walk(w[0], w[1]);
-        edges("walk", -1, walk, of(1, 2), 0, of(0, 5), of(-1, 6, 15, 16));
+        edges("walk", -1, walk, of(1, 2), 0, of(0, 10), of(-1, 11, 15, 16));
         edges("walk", -1, walk, of(1, 2), 1, of(0, 4), of(-1, 5));
     }
 
@@ -268,6 +268,8 @@ public final class RefusalTest extends Asked {
         edges("fright", -1, fright, plain, 2, of(0, 6), of(-1, 7));
         edges("fright", -1, fright, plain, 3, of(0, 11), of(-1, 12, 255));
         edges("fright", -1, fright, plain, 4, of(0, 1), of(-1, 2));
+        refused("fright", -2, fright, 0, 0, 3, 1, 0);
+        asked("fright", -2, fright, 0, 0, 3, 0, 0);
     }
 
     private void week() {
@@ -287,12 +289,16 @@ public final class RefusalTest extends Asked {
         edges("once", -3, once, of(1, -1), 0, of(1, 512, ALL_TOLD_SLEEPERS),
             of(0, 1 << NOT_TOLD_SLEEPER, 1 | 1 << NOT_TOLD_SLEEPER, 1023, 1024, 1025, -1));
         edges("once", -3, once, of(1, -1), 1, of(-1, 0, 9), of(-2, 10, NOT_TOLD_GHOST));
+        // no k holds for sleeper 9
+        refused("once", -2, once, 512, -1);
+        refused("once", -2, once, 513, 0);
+        asked("once", -2, once, 256, -1);
     }
 
     private void bestWalk() {
         Call bestWalk = (h, w) -> h.bestWalk(w[0], w[1]);
-        // 0, 1 and 2 have one
-        edges("bestWalk", -1, bestWalk, of(3, 0), 0, of(3, 9), of(-1, 10, NOT_TOLD_GHOST, 0, 2));
+        // 0, 1, 2, 7 and 8 have one
+        edges("bestWalk", -1, bestWalk, of(3, 0), 0, of(3, 9), of(-1, 10, NOT_TOLD_GHOST, 0, 2, 7, 8));
         edges("bestWalk", -1, bestWalk, of(3, 0), 1, of(0, 2), of(-1, 3));
     }
 
@@ -302,6 +308,9 @@ public final class RefusalTest extends Asked {
         edges("candle", -1, candle, of(3, 1, 0), 1, of(1, 512, ALL_TOLD_SLEEPERS),
             of(0, 1 << NOT_TOLD_SLEEPER, 1 | 1 << NOT_TOLD_SLEEPER, 1023, 1024, 1025, -1));
         edges("candle", -1, candle, of(3, 1, 0), 2, of(0, 3), of(-1, 4));
+        refused("candle", -2, candle, 3, 512, 1);
+        refused("candle", -2, candle, 3, ALL_TOLD_SLEEPERS, 2);
+        asked("candle", -2, candle, 3, 512, 0);
     }
 
     private void mended() {
@@ -362,6 +371,9 @@ public final class RefusalTest extends Asked {
         edges("odds", -1, odds, of(0, 0, 0), 0, of(0, 6), of(-1, 7));
         edges("odds", -1, odds, of(0, 0, 0), 1, of(0, 9), of(-1, 10, NOT_TOLD_SLEEPER));
         edges("odds", -1, odds, of(0, 0, 0), 2, of(0, 1), of(-1, 2));
+        refused("odds", -2, odds, 5, 0, 0);
+        refused("odds", -2, odds, 5, 9, 1);
+        asked("odds", -2, odds, 4, 0, 0);
     }
 
     private void seed() {
