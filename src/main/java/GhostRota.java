@@ -1164,7 +1164,8 @@ public final class GhostRota {
         private void readNumber() {
             int number = 0;
             for (int digits = 0; digits < MOST_DIGITS && text.isAtDigit(); digits++) {
-                number = 10 * number + text.takeDigit(HIGHEST_DIGIT);
+                number = 10 * number + text.peek() - '0';
+                text.at++;
             }
             if (text.isAtDigit()) {
                 text.fail(SIXTH_DIGIT);

@@ -31,6 +31,10 @@ final class Due {
         return wrong;
     }
 
+    int asked() {
+        return right + wrong;
+    }
+
     /** Ends the program: 1 if an answer was wrong. */
     void end() {
         System.out.println(name + ": " + right + " right, " + wrong + " wrong");

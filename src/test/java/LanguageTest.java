@@ -279,7 +279,7 @@ public final class LanguageTest {
         }
     }
 
-    /** Calls go at most eight deep, where a call that stands open already (a recursion) is not followed again. */
+    /** Calls go at most eight deep, where methods that call one another (a recursion) are one level together. */
     private void depths() {
         for (Map.Entry<String, Set<String>> e : calls.entrySet()) {
             for (String name : e.getValue()) {
@@ -287,24 +287,39 @@ public final class LanguageTest {
             }
         }
         for (String name : face) {
-            List<String> open = new ArrayList<>();
-            int depth = depth(name, open);
-            // a reader of the law calls itself through its parts: those are counted as they stand open
-            due.yes(name + " goes " + depth + " deep", depth <= (name.equals("law") ? 14 : 8));
+            int depth = depth(name);
+            due.yes(name + " goes " + depth + " deep", depth <= 8);
         }
     }
 
-    private int depth(String name, List<String> open) {
-        if (!calls.containsKey(name) || open.contains(name)) {
-            return 0;
+    private int depth(String name) {
+        Set<String> circle = new HashSet<>();
+        for (String other : reached(name)) {
+            if (reached(other).contains(name)) {
+                circle.add(other);
+            }
         }
-        open.add(name);
+        circle.add(name);
         int most = 0;
-        for (String next : calls.get(name)) {
-            most = Math.max(most, depth(next, open));
+        for (String one : circle) {
+            for (String next : calls.getOrDefault(one, Set.of())) {
+                most = circle.contains(next) ? most : Math.max(most, depth(next));
+            }
         }
-        open.remove(name);
         return most + 1;
+    }
+
+    /** All that a method calls, and what these call, and so on. */
+    private Set<String> reached(String name) {
+        Set<String> seen = new HashSet<>();
+        List<String> open = new ArrayList<>(calls.getOrDefault(name, Set.of()));
+        while (!open.isEmpty()) {
+            String next = open.remove(open.size() - 1);
+            if (seen.add(next)) {
+                open.addAll(calls.getOrDefault(next, Set.of()));
+            }
+        }
+        return seen;
     }
 
     /** No call makes objects; the rows of one house are few. */
